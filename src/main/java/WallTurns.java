@@ -1024,8 +1024,9 @@ public final class WallTurns {
 
         private final Wall wall = new Wall();
         private final int[] row = new int[MOST_PLANNED];
+        private final int[] moves = new int[MOST_PLANNED + 1];
         private int needed = NONE;
-        private int chosen = NONE;
+        private int firstMove = NONE;
 
         /** Of the row last searched for: how many (NONE), the i-th, or NONE. */
         int told(int i) {
@@ -1039,21 +1040,22 @@ public final class WallTurns {
             wall.become(from);
             needed = NONE;
             for (int goal = 0; goal <= MOST_PLANNED && needed == NONE; goal++) {
-                if (canMend(rules, 0, goal)) {
+                if (canMend(wall, rules, row, 0, goal)) {
                     needed = goal;
                 }
             }
         }
 
-        private boolean canMend(Rules rules, int at, int goal) {
-            if (at < 0 || at >= goal || at >= MOST_PLANNED) {
+        /** Whether a row of so many, as far as it is told already, can be ended so that the wall stands. */
+        private static boolean canMend(Wall wall, Rules rules, int[] row, int at, int goal) {
+            if (at < 0 || at >= goal || at >= row.length) {
                 return wall.stands(rules);
             }
-            for (int number = leastAt(at); number < 2 * MOST_COLUMNS; number++) {
+            for (int number = leastAt(row, at); number < 2 * MOST_COLUMNS; number++) {
                 int column = number % MOST_COLUMNS;
                 if (wall.put(column, number / MOST_COLUMNS)) {
                     row[at] = number;
-                    boolean stands = canMend(rules, at + 1, goal);
+                    boolean stands = canMend(wall, rules, row, at + 1, goal);
                     wall.take(column);
                     if (stands) {
                         return true;
@@ -1067,21 +1069,21 @@ public final class WallTurns {
             wall.become(from);
             needed = NONE;
             for (int goal = 0; goal <= MOST_PLANNED && needed == NONE; goal++) {
-                if (canOpen(rules, pears, 0, goal)) {
+                if (canOpen(wall, rules, pears, row, 0, goal)) {
                     needed = goal;
                 }
             }
         }
 
-        private boolean canOpen(Rules rules, int pears, int at, int goal) {
-            if (at < 0 || at >= goal || at >= MOST_PLANNED) {
+        private static boolean canOpen(Wall wall, Rules rules, int pears, int[] row, int at, int goal) {
+            if (at < 0 || at >= goal || at >= row.length) {
                 return wall.sunny(rules) >= pears && wall.stands(rules);
             }
-            for (int column = leastAt(at); column < wall.columnCount(); column++) {
+            for (int column = leastAt(row, at); column < wall.columnCount(); column++) {
                 int stone = wall.take(column);
                 if (stone != NONE) {
                     row[at] = column;
-                    boolean isOpen = canOpen(rules, pears, at + 1, goal);
+                    boolean isOpen = canOpen(wall, rules, pears, row, at + 1, goal);
                     wall.put(column, stone);
                     if (isOpen) {
                         return true;
@@ -1091,30 +1093,34 @@ public final class WallTurns {
             return false;
         }
 
-        private int leastAt(int at) {
-            return at >= 1 && at <= MOST_PLANNED ? row[at - 1] : 0;
+        /** A row never falls, so that of like rows only the least is looked at. */
+        private static int leastAt(int[] row, int at) {
+            return at >= 1 && at <= row.length ? row[at - 1] : 0;
         }
 
         /** What the pears come to when both brothers do their best for so many turns. */
         int playOn(Wall from, Rules rules, int turns, int brother) {
             wall.become(from);
-            return bestWorth(rules, Math.min(turns, MOST_PLANNED), brother);
+            int left = Math.min(turns, MOST_PLANNED);
+            int worth = bestWorth(wall, rules, moves, left, brother);
+            firstMove = left >= 0 && left < moves.length ? moves[left] : NONE;
+            return worth;
         }
 
         /** What the one who begins does in the play last looked at. */
         int firstMove() {
-            return chosen;
+            return firstMove;
         }
 
-        private int bestWorth(Rules rules, int left, int brother) {
-            if (left <= 0) {
+        private static int bestWorth(Wall wall, Rules rules, int[] moves, int left, int brother) {
+            if (left <= 0 || left >= moves.length) {
                 return wall.stands(rules) ? wall.sunny(rules) : -1;
             }
             int best = 0;
             int by = NONE;
             for (int move = 0; move <= NOWHERE; move++) {
                 if (move == NOWHERE || wall.put(move, brother)) {
-                    int worth = bestWorth(rules, left - 1, 1 - brother);
+                    int worth = bestWorth(wall, rules, moves, left - 1, 1 - brother);
                     if (move != NOWHERE) {
                         wall.take(move);
                     }
@@ -1124,8 +1130,7 @@ public final class WallTurns {
                     }
                 }
             }
-            // the outermost call ends last, so its move is the one that stays
-            chosen = by;
+            moves[left] = by;
             return best;
         }
 
@@ -1152,7 +1157,7 @@ public final class WallTurns {
 
         void freeze(Wall from, Rules rules, int c) {
             wall.become(from);
-            above = standing(rules, c, 0);
+            above = standing(wall, rules, c, 0);
             below = 1;
             for (int column = 0; column < wall.columnCount(); column++) {
                 if (wall.sizeOf(column) > 0) {
@@ -1163,17 +1168,17 @@ public final class WallTurns {
         }
 
         /** The ways to stand, of 16 for each column with stones from this one on. */
-        private long standing(Rules rules, int c, int column) {
+        private static long standing(Wall wall, Rules rules, int c, int column) {
             if (column >= wall.columnCount() || column >= MOST_COLUMNS) {
                 return wall.stands(rules) ? 1 : 0;
             }
             if (wall.sizeOf(column) == 0) {
-                return standing(rules, c, column + 1);
+                return standing(wall, rules, c, column + 1);
             }
-            long ways = c < SIXTEENTHS ? (SIXTEENTHS - c) * standing(rules, c, column + 1) : 0;
+            long ways = c < SIXTEENTHS ? (SIXTEENTHS - c) * standing(wall, rules, c, column + 1) : 0;
             if (c > 0) {
                 int stone = wall.take(column);
-                ways += c * standing(rules, c, column + 1);
+                ways += c * standing(wall, rules, c, column + 1);
                 wall.put(column, stone);
             }
             return ways;

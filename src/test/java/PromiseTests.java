@@ -84,6 +84,7 @@ public final class PromiseTests {
     for (int s = 0; s < 4; s++) due("lose(" + s + ")", x.lose(s), NULL);
     dueRow("what is set at first", "0 3 0 6 4 255", x.set(BEGINS, 0), x.set(BOND, 3), x.set(PUSH, 0), x.set(BEARS, 6),
         x.set(LOW, 4), x.set(PEARS, 255));
+    dueRow("who begins has nothing to begin", "0 1 0 0", x.set(BEGINS, 1), x.set(BEGINS, 0), x.count(1), x.count(6));
     due("highest", x.highest(), -1);
     WallTurns one = made("n", "n0");
     due("another object knows nothing of it", new WallTurns().count(0), 0);
@@ -219,6 +220,9 @@ public final class PromiseTests {
       due("behind " + v, x.height(v, 0), -2);
       due("column " + v, x.height(0, v), -2);
     }
+    WallTurns all = made("", repeat("n0;", 11) + "s0");
+    all.type(0, ';');
+    dueRow("behind twelve", "6 6 7 -2", all.height(11, 0), all.height(12, 0) - 1, all.height(12, 0), all.height(13, 0));
     due("no wall", new WallTurns().height(0, 0), -2);
     due("as high as can be", made("NSNSNSNS", "").height(0, 0), 16);
     x.set(BEGINS, 1);
@@ -350,6 +354,10 @@ public final class PromiseTests {
     y.set(BOND, 0);
     y.undo(0);
     dueRow("bond 0: 1, 0, 2", "1 0", y.first(0), y.first(1));
+    WallTurns last = made("nn", "s0;s0;N0");
+    dueRow("behind the last of all", "3 0", last.first(0), last.first(1));
+    last.wipe(1);
+    due("not before", last.first(0), -1);
     for (int what : OUTSIDE) due("what " + what, x.first(what), -2);
     dueRow("no wall", "-1 -1", new WallTurns().first(0), new WallTurns().first(1));
   }
@@ -361,6 +369,7 @@ public final class PromiseTests {
     due("by height, not by stones", made("nnn;NN", "").highest(), 1);
     due("all empty", made(";;", "").highest(), 0);
     due("the last", made(";;;;;;;n", "").highest(), 7);
+    due("one column", made("n", "").highest(), 0);
     due("no columns", new WallTurns().highest(), -1);
   }
 
@@ -583,6 +592,7 @@ public final class PromiseTests {
     write(x, 0, "n;;nn");
     dueRow("where it stands either way", "5 16", x.frost(5, 0), x.frost(5, 1));
     dueRow("one leans on the other", "13 16", frostOf("n;ns", 1, 16, 4));
+    dueRow("eight columns, sure", "1 1", frostOf("nn;nn;nn;nn;nn;nn;nn;nn", 16, 1, 16));
     dueRow("eight columns", "1 4294967296", frostOf("nn;nn;nn;nn;nn;nn;nn;nn", 16, 1, 1));
     dueRow("one of six stands either way", "759375 1048576", frostOf("n;nn;nn;nn;nn;nn", 16, 1, 15));
     dueRow("behind all turns", "1 1", frostOfTurns("nn", "n0;-0s0;-0n0"));
@@ -637,8 +647,9 @@ public final class PromiseTests {
     WallTurns x = new WallTurns();
     dueRow("the least and the most", "0 60 1", x.sheet(0, 0, 0), x.sheet(3, 2, 60), x.sheet(1, 1, 1));
     x.lay(3, 2, 59, 7);
+    x.lay(3, 2, 0, 7);
     x.sheet(3, 2, 60);
-    due("a new row", x.get(3, 2, 59), 0);
+    dueRow("a new row", "0 0", x.get(3, 2, 59), x.get(3, 2, 0));
     x.sheet(3, 0, 2);
     dueRow("of a new form", "0 -13 2", x.get(3, 0, 0), x.lay(3, 2, 0, 1), x.lose(3));
     for (int v : new int[] {-1, 4, Integer.MIN_VALUE, Integer.MAX_VALUE}) due("sheet " + v, x.sheet(v, 0, -1), -2);
@@ -722,6 +733,10 @@ public final class PromiseTests {
     asItems("to another", x, 1, "045");
     due("to itself, up", x.copy(0, 0, 0, 1, 4), 1);
     asItems("as they were", x, 0, "11234");
+    WallTurns whole = withSheet(1, new int[60]);
+    whole.lay(2, 1, 59, 7);
+    whole.sheet(3, 1, 60);
+    dueRow("all there can be", "1 7", whole.copy(2, 0, 3, 0, 60), whole.get(3, 1, 59));
     x = five();
     due("to itself, down", x.copy(0, 1, 0, 0, 4), 1);
     asItems("as they were", x, 0, "23455");
