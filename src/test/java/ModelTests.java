@@ -11,16 +11,25 @@ public final class ModelTests {
       "lose", "lay", "get", "copy", "write", "count", "digest"};
   private static final int[] HARD = {Integer.MIN_VALUE, Integer.MAX_VALUE, -1, -2, 0, 255, 256, -129, 40000, 65536};
 
+  /** An object is used for so many calls; what later ones answer is free. The last one is kept for digest(). */
+  private static final int MOST_CALLS = 512;
+
   private final Random random;
+  private final boolean full;
+  private final String[] filled = new String[2];
   private final WallTurns program = new WallTurns();
   private final Model model = new Model();
   private final List<String> told = new ArrayList<>();
+  private int calls = 0;
   private int wrong = 0;
 
-  private ModelTests(long seed) { random = new Random(seed); }
+  private ModelTests(long seed) {
+    random = new Random(seed);
+    full = seed % 3 == 0;
+  }
 
   public static void main(String[] args) throws Exception {
-    int runs = args.length > 0 ? Integer.parseInt(args[0]) : 30;
+    int runs = args.length > 0 ? Integer.parseInt(args[0]) : 24;
     long from = args.length > 1 ? Long.parseLong(args[1]) : 1;
     int wrong = 0;
     for (long seed = from; seed < from + runs; seed++) {
@@ -32,23 +41,80 @@ public final class ModelTests {
     if (wrong != 0) System.exit(1);
   }
 
+  /** A run up to the last call that is promised; in every third one all is full from the start on. */
   private void run(long seed) throws Exception {
-    writeTexts();
-    while (told.size() < 500 && wrong == 0) {
+    if (full) fillAll(); else writeTexts();
+    while (calls < MOST_CALLS - 1 && wrong == 0) {
       int kind = random.nextInt(100);
-      if (kind < 3 || model.count(0) == 0 && kind < 60) writeTexts();
+      if (!full && (kind < 3 || model.count(0) == 0 && kind < 60)) writeTexts();
       else if (kind < 8) makeRules();
       else if (kind < 14) seeWhatIs();
       else if (kind < 20) fillSheet();
+      else if (kind < 24 && full) typeAtTheEnd();
       else if (kind < 22) typeOneMore();
       else any();
     }
+    make("digest");
     if (wrong != 0) System.out.println("seed " + seed + ": " + String.join(" ", told));
+    else if (calls != MOST_CALLS) throw new IllegalStateException("a run of " + calls + " calls");
+  }
+
+  /** Both texts to the last byte or near it, all SEEN, all four SHEETS with sixty items. */
+  private void fillAll() throws Exception {
+    filled[0] = fullWall().substring(0, 62 + random.nextInt(2));
+    filled[1] = fullTurns().substring(0, random.nextInt(3) == 0 ? 57 : 59);
+    for (int text = 0; text < 2; text++) for (char c : filled[text].toCharArray()) call("type", text, (int) c);
+    for (int s = 0; s < 4; s++) call("sheet", s, s == 3 ? random.nextInt(3) : s, 60);
+    for (int i = 0; i < 8; i++) {
+      int t = random.nextInt(13);
+      int c = random.nextInt(8);
+      call("seen", t, c, random.nextInt(4) == 0 ? random.nextInt(17) : Math.max(0, model.height(t, c)));
+    }
+  }
+
+  /** A byte too many, or one undone and typed once more: behind it the text is as it was. */
+  private void typeAtTheEnd() throws Exception {
+    int text = random.nextInt(2);
+    int last = filled[text].length() - 1;
+    call("type", text, anyByte());
+    for (int many = model.count(2 + text); many > last; many--) call("undo", text);
+    call("fault", text);
+    call("type", text, (int) filled[text].charAt(last));
+    call("fault", text);
+  }
+
+  /** Seven columns of seven or eight stones, and one that has what is left. */
+  private String fullWall() {
+    String of = new String[] {"nsNS", "ns", "nnSs", "NS"}[random.nextInt(4)];
+    int[] sizes = new int[8];
+    for (int left = 56; left > 0; ) {
+      int c = random.nextInt(8);
+      if (sizes[c] < 8) { sizes[c]++; left--; }
+    }
+    StringBuilder all = new StringBuilder();
+    for (int c = 0; c < 8; c++) {
+      if (c > 0) all.append(';');
+      for (int k = 0; k < sizes[c]; k++) all.append(of.charAt(random.nextInt(of.length())));
+    }
+    return all.toString();
+  }
+
+  /** Twelve turns of four bytes each: one that takes and lays, or one that lays two, as the last one does. */
+  private String fullTurns() {
+    StringBuilder all = new StringBuilder();
+    for (int t = 0; t < 12; t++) {
+      if (t > 0) all.append(';');
+      String own = random.nextInt(6) == 0 ? "nsNS" : t % 2 == 0 ? "nN" : "sS";
+      String laid = "" + own.charAt(random.nextInt(own.length())) + random.nextInt(8);
+      boolean takes = t < 11 && random.nextInt(4) > 0;
+      all.append(takes ? "-" + random.nextInt(8) : "" + own.charAt(0) + random.nextInt(8)).append(laid);
+    }
+    return all.toString();
   }
 
   private void any() throws Exception {
     String name = NAMES[random.nextInt(NAMES.length)];
-    if (List.of("type", "wipe", "undo").contains(name) && random.nextInt(8) != 0) return;
+    if (List.of("type", "wipe", "undo").contains(name) && (full || random.nextInt(8) != 0)) return;
     int many = methodOf(WallTurns.class, name).getParameterCount();
     int[] with = new int[many];
     for (int k = 0; k < many; k++) with[k] = number(name, k);
@@ -113,7 +179,7 @@ public final class ModelTests {
 
   private void writeTexts() throws Exception {
     for (int text = 0; text < 2; text++) {
-      if (told.size() > 0 && random.nextInt(2) == 0 && model.fault(text) == -1) continue;
+      if (calls > 0 && random.nextInt(2) == 0 && model.fault(text) == -1) continue;
       call("wipe", text);
       String all = text == 0 ? someWall() : someTurns();
       for (int i = 0; i < all.length() && i < 64; i++) call("type", text, (int) all.charAt(i));
@@ -173,6 +239,11 @@ public final class ModelTests {
   }
 
   private void call(String name, int... given) throws Exception {
+    if (calls < MOST_CALLS - 1) make(name, given);
+  }
+
+  private void make(String name, int... given) throws Exception {
+    calls++;
     Method of = methodOf(WallTurns.class, name);
     Object[] with = new Object[of.getParameterCount()];
     for (int k = 0; k < with.length; k++) with[k] = given[k];

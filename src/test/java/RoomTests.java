@@ -5,20 +5,29 @@ import java.lang.management.ManagementFactory;
 public final class RoomTests {
   private static final ThreadMXBean THREADS = (ThreadMXBean) ManagementFactory.getThreadMXBean();
 
+  /** Each round is on an object of its own, since one is used for 512 calls at most. */
+  private static final int ROUNDS = 20;
+
   private static long answers = 0;
 
   public static void main(String[] args) {
-    WallTurns x = new WallTurns();
-    long self = Thread.currentThread().getId();
-    everyCall(x);
-    long before = THREADS.getThreadAllocatedBytes(self);
-    for (int i = 0; i < 20; i++) everyCall(x);
-    long made = THREADS.getThreadAllocatedBytes(self) - before;
-    // asking for the number may itself make something once, the calls may not: twenty rounds are some 2,500 of them
-    boolean fine = made < 20_000;
-    System.out.println(fine ? "the calls make no objects" : "the calls made " + made + " bytes (" + answers + ")");
+    WallTurns[] all = new WallTurns[ROUNDS + 1];
+    all[0] = new WallTurns();
+    everyCall(all[0]);
+    long before = made();
+    for (int i = 1; i <= ROUNDS; i++) all[i] = new WallTurns();
+    long each = (made() - before) / ROUNDS;
+    before = made();
+    for (int i = 1; i <= ROUNDS; i++) everyCall(all[i]);
+    long byCalls = made() - before;
+    // asking for the number may itself make something once, the calls may not: twenty rounds are some 3,500 of them
+    boolean fine = byCalls < 20_000 && each < 20_000;
+    String told = "a new object is " + each + " bytes, the calls made " + byCalls + " (" + answers + ")";
+    System.out.println(fine ? "the calls make no objects" : told);
     if (!fine) System.exit(1);
   }
+
+  private static long made() { return THREADS.getThreadAllocatedBytes(Thread.currentThread().getId()); }
 
   private static void everyCall(WallTurns x) {
     for (int text = 0; text < 2; text++) {

@@ -10,6 +10,7 @@ import java.util.Random;
 public final class SturdyTests {
   private static final int[] NUMBERS = {Integer.MIN_VALUE, Integer.MIN_VALUE + 1, -1000, -3, -2, -1, 0, 1, 2, 3, 4, 5, 6,
       7, 8, 9, 12, 13, 16, 17, 40, 41, 59, 60, 61, 63, 64, 255, 256, 65535, Integer.MAX_VALUE - 1, Integer.MAX_VALUE};
+  private static final int MOST_CALLS = 512;
   private static final String BYTES = "nsNSnsNS;;-01234567x";
 
   public static void main(String[] args) throws Exception {
@@ -18,10 +19,29 @@ public final class SturdyTests {
         .filter(m -> Modifier.isPublic(m.getModifiers())).sorted(Comparator.comparing(Method::getName)).toList();
     for (int run = 0; run < 300; run++) {
       WallTurns x = new WallTurns();
-      for (int i = 0; i < 60; i++) x.type(random.nextInt(2), BYTES.charAt(random.nextInt(run % 2 == 0 ? 10 : BYTES.length())));
-      for (int i = 0; i < 400; i++) tryOne(x, all.get(random.nextInt(all.size())), random);
+      int calls = run % 3 == 0 ? typeWellOnes(x) : typeAny(x, run, random);
+      for (int i = calls; i < MOST_CALLS; i++) {
+        Method of = all.get(random.nextInt(all.size()));
+        boolean shortens = of.getName().equals("wipe") || of.getName().equals("undo");
+        // what is wiped away early tells nothing further on
+        if (!shortens || i > MOST_CALLS - 100) tryOne(x, of, random);
+      }
     }
     System.out.println("no call throws");
+  }
+
+  /** Texts that most often have a fault; how many calls it takes. */
+  private static int typeAny(WallTurns x, int run, Random random) {
+    int bytes = 20 + random.nextInt(130);
+    for (int i = 0; i < bytes; i++) x.type(random.nextInt(2), BYTES.charAt(random.nextInt(run % 2 == 0 ? 10 : BYTES.length())));
+    return bytes;
+  }
+
+  /** Both texts to the last byte, well; how many calls it takes. */
+  private static int typeWellOnes(WallTurns x) {
+    for (char c : ("nsNSnsn;".repeat(7) + "NSsnnNS").toCharArray()) x.type(0, c);
+    for (char c : ("-0n1;-7S0;".repeat(5) + "N3n4;s0S7").toCharArray()) x.type(1, c);
+    return x.count(2) + x.count(3) + 2;
   }
 
   private static void tryOne(WallTurns x, Method of, Random random) throws Exception {
