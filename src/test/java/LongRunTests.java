@@ -3,7 +3,8 @@ import java.util.Deque;
 
 /**
  * What is promised holds up to the 512th call: runs of just so many, with both texts full or near it, all SEEN taken and
- * all four SHEETS held. What is due is worked out by hand here; ModelTests makes such runs of calls by a seed.
+ * all four SHEETS held. What is due is worked out by hand here, but for YEARS, which the model tells; ModelTests makes such
+ * runs of calls by a seed.
  */
 public final class LongRunTests {
   private static final int MOST_CALLS = 512;
